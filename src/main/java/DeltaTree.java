@@ -136,7 +136,11 @@ public final class DeltaTree {
         int notesBefore = noteCount;
         int heldBefore = held;
         for (int i = 0; i < changes; i++) {
-            carryOut(i);
+            if (batchPuts[i]) {
+                write(batchKeys[i], batchValues[i]);
+            } else {
+                erase(batchKeys[i]);
+            }
             if (held > MOST_ENTRIES) {
                 noteCount = notesBefore;
                 held = heldBefore;
@@ -154,7 +158,7 @@ public final class DeltaTree {
         return key < 0 || key > LAST_KEY;
     }
 
-    /** The place where the key's entry is seen; a key out of range stands nowhere. */
+    // No test of the range: a key out of range is never let in, so it is found nowhere.
     private int placeOf(int key) {
         for (int note = noteCount - 1; note >= 0; note--) {
             if (noteKeys[note] == key) {
@@ -177,7 +181,7 @@ public final class DeltaTree {
         return place < pageSize ? pageValues[pageStart + place] : noteValues[place - pageSize];
     }
 
-    /** Answers 1 if the entry is new, else 0. The limit is the caller's to keep. */
+    // The limit is the callers' to keep: commit must be able to go above it and back.
     private int write(int key, int value) {
         int added = placeOf(key) == NO_PLACE ? 1 : 0;
         hangNote(true, key, value);
@@ -185,7 +189,6 @@ public final class DeltaTree {
         return added;
     }
 
-    /** Answers 1 if there was an entry to remove, else 0. */
     private int erase(int key) {
         if (placeOf(key) == NO_PLACE) {
             return 0;
@@ -193,14 +196,6 @@ public final class DeltaTree {
         hangNote(false, key, 0);
         held--;
         return 1;
-    }
-
-    private void carryOut(int change) {
-        if (batchPuts[change]) {
-            write(batchKeys[change], batchValues[change]);
-        } else {
-            erase(batchKeys[change]);
-        }
     }
 
     private void hangNote(boolean puts, int key, int value) {

@@ -17,7 +17,9 @@ public final class PromisesTest {
     private static DeltaTree filled(int entries) {
         DeltaTree x = new DeltaTree();
         for (int i = 0; i < entries; i++) {
-            due("put(" + 10 * i + ") while filling", x.put(10 * i, 10 * i + 1), 1);
+            // 67 is a prime above 60, so each key comes once, and not in rising order.
+            int key = 10 * (67 * i % entries);
+            due("put(" + key + ") while filling", x.put(key, key + 1), 1);
         }
         return x;
     }
@@ -291,6 +293,26 @@ public final class PromisesTest {
         due("commit that is above 60 only for a time", x.commit(), -1);
         unchanged(x, 60);
         due("put of a 61st after that", x.put(5, 1), -1);
+        for (int puts = 0; puts <= 40; puts++) {
+            refusedAfter(puts);
+        }
+    }
+
+    /** A page may be due to be made anew at any change of the batch; none of it may stay. */
+    private static void refusedAfter(int puts) {
+        DeltaTree x = filled(60);
+        for (int i = 0; i < puts; i++) {
+            x.put(0, 1);
+        }
+        x.stage(false, 0, 0);
+        x.stage(false, 10, 0);
+        x.stage(true, 5, 5);
+        x.stage(true, 20, -20);
+        x.stage(true, 6, 6);
+        x.stage(true, 7, 7);
+        due("commit refused at its last change after " + puts + " puts", x.commit(), -1);
+        unchanged(x, 60);
+        due("commit after it", x.commit(), 60);
     }
 
     private static void atTheLimit() {
