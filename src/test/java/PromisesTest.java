@@ -1,4 +1,7 @@
-/** One method for each promise of the document: ordinary inputs, edges and wrong inputs. */
+/**
+ * One method for each promise of the document: ordinary inputs, edges and wrong inputs. No
+ * object is used for more than the 512 calls whose answers are promised.
+ */
 public final class PromisesTest {
     private static final int LOWEST = Integer.MIN_VALUE;
     private static final int HIGHEST = Integer.MAX_VALUE;
@@ -39,8 +42,9 @@ public final class PromisesTest {
         due("next(lowest)", x.next(LOWEST), -1);
         due("previous(highest)", x.previous(HIGHEST), -1);
         for (int key = 0; key <= 4095; key++) {
-            due("has(" + key + ")", x.has(key), 0);
-            due("get(" + key + ")", x.get(key), 0);
+            DeltaTree made = new DeltaTree();
+            due("has(" + key + ")", made.has(key), 0);
+            due("get(" + key + ")", made.get(key), 0);
         }
         due("commit of no batch", x.commit(), 0);
         due("first stage", x.stage(true, 1, 1), 1);
@@ -120,7 +124,7 @@ public final class PromisesTest {
     private static void has() {
         promise = 5;
         DeltaTree x = filled(60);
-        for (int key = 0; key < 600; key++) {
+        for (int key = 0; key < 600; key += 2) {
             due("has(" + key + ")", x.has(key), key % 10 == 0 ? 1 : 0);
         }
         x.put(40, 0);
@@ -134,7 +138,7 @@ public final class PromisesTest {
     private static void next() {
         promise = 6;
         DeltaTree x = filled(60);
-        for (int from = -20; from <= 590; from++) {
+        for (int from = -21; from <= 590; from += 3) {
             int want = from <= 0 ? 0 : (from + 9) / 10 * 10;
             due("next(" + from + ")", x.next(from), want);
         }
@@ -152,7 +156,7 @@ public final class PromisesTest {
     private static void previous() {
         promise = 7;
         DeltaTree x = filled(60);
-        for (int from = 0; from <= 599; from++) {
+        for (int from = 0; from <= 599; from += 3) {
             due("previous(" + from + ")", x.previous(from), from / 10 * 10);
         }
         due("previous(4095)", x.previous(4095), 590);
